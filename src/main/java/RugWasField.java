@@ -56,9 +56,22 @@ public final class RugWasField {
     }
 
     public int land() {
-        int answer = readLand();
+        int odd = telling.firstOddLetter();
+        int wrong = NONE;
+        if (odd == NONE) {
+            // In mind first, so that a fault far behind leaves the land as it was.
+            mind.copyFrom(now);
+            wrong = telling.tellTo(mind);
+        }
         telling.length = 0;
-        return answer;
+        if (odd != NONE) {
+            return -1000 - odd;
+        }
+        if (wrong != NONE) {
+            return -2000 - wrong;
+        }
+        now.copyFrom(mind);
+        return telling.statements;
     }
 
     public int yard(int yard, int what) {
@@ -539,21 +552,6 @@ public final class RugWasField {
         return what < 0 || what > last ? OTHER : 0;
     }
 
-    /** In mind first, so that a fault far behind leaves the land as it was. */
-    private int readLand() {
-        int odd = telling.firstOddLetter();
-        if (odd != NONE) {
-            return -1000 - odd;
-        }
-        mind.copyFrom(now);
-        int wrong = telling.tellTo(mind);
-        if (wrong != NONE) {
-            return -2000 - wrong;
-        }
-        now.copyFrom(mind);
-        return telling.statements;
-    }
-
     private boolean cuts(int bits, int one, int other) {
         mind.copyFrom(now);
         for (int piece = 0; piece < mind.pieces; piece++) {
@@ -667,26 +665,17 @@ public final class RugWasField {
     /** By how much a kind grows on a day. */
     private static final class Growth {
         static int ofKind(int kind, int figure, int day) {
+            int piece = day % 3 == 0 ? 1 : 0;
+            int turf = piece + (day % 2 == 0 ? 1 : 0);
+            int meadow = turf + figure / 4;
             switch (kind) {
-                case TURF: return ofTurf(day);
-                case MEADOW: return ofMeadow(figure, day);
-                case COMMON: return (ofMeadow(figure, day) + 1) / 2;
-                case FIELD: return ofPiece(day) + (day % 7 == 0 ? figure / 3 : 0);
+                case TURF: return turf;
+                case MEADOW: return meadow;
+                case COMMON: return (meadow + 1) / 2;
+                case FIELD: return piece + (day % 7 == 0 ? figure / 3 : 0);
                 case HOLE: return 0;
-                default: return ofPiece(day);
+                default: return piece;
             }
-        }
-
-        private static int ofPiece(int day) {
-            return day % 3 == 0 ? 1 : 0;
-        }
-
-        private static int ofTurf(int day) {
-            return ofPiece(day) + (day % 2 == 0 ? 1 : 0);
-        }
-
-        private static int ofMeadow(int figure, int day) {
-            return ofTurf(day) + figure / 4;
         }
     }
 
@@ -795,8 +784,8 @@ public final class RugWasField {
         /** Nothing shrinks by itself, so the days' growth can be put together first. */
         private int growthOver(int piece, int n) {
             int together = 0;
-            for (int ahead = 1; ahead <= n && together < THISTLE; ahead++) {
-                together += growthOn(piece, day + ahead);
+            for (int ahead = 1; ahead <= n && together < THISTLE && !rolled[piece]; ahead++) {
+                together += Growth.ofKind(kind[piece], figure[piece], day + ahead);
             }
             return together;
         }

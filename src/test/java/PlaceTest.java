@@ -40,6 +40,8 @@ public final class PlaceTest {
 
     private static void edge() {
         CHECK.due("all the land", Check.of("pp00066;").edge(0), 0);
+        CHECK.due("the first yard", Check.of("pp00011;").edge(0), 1);
+        CHECK.due("the last yard", Check.of("pp03511;").edge(0), 1);
         CHECK.due("in the midst", Check.of("pp00744;").edge(0), 12);
         CHECK.due("a corner", Check.of("pp00033;").edge(0), 5);
         RugWasField x = Check.of("pp01422;pp00066;pp00011;");

@@ -146,6 +146,15 @@ public final class RowTest {
             }
         }
         CHECK.due("rolled as ahead", x.count(5), 1);
+        // A turf from day 1 on has 8 behind 10 days and 9 behind 11, if the draw leaves it laid out.
+        RugWasField y = Check.of("d01;pt00066;");
+        int laid = 0;
+        for (int z = 0; z < 20; z++) {
+            boolean rolled = ((z * 1664525 + 1013904223) >> 8 & 1) == 1;
+            CHECK.due("ten days of lots(1, " + z + ", 1)", y.lots(1, z, 1), rolled ? 0 : 36 * 8);
+            laid += rolled ? 0 : 1;
+        }
+        CHECK.yes("some are laid out, some not", laid > 0 && laid < 20);
         CHECK.due("lots(0, 0, 2)", x.lots(0, 0, 2), -4);
         CHECK.due("lots(-1, 0, 0)", x.lots(-1, 0, 0), -4);
         CHECK.due("lots(21, 0, 2)", x.lots(21, 0, 2), -6);

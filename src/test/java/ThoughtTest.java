@@ -87,6 +87,11 @@ public final class ThoughtTest {
         CHECK.due("turf, 11 days", x.treadings(1, 11, 0), 0);
         CHECK.due("turf, 12 days", x.treadings(1, 12, 0), 1);
         CHECK.due("turf, the day", x.treadings(1, 12, 1), 12);
+        // A turf must be trod on days 12, 21, 30 and 39 at the latest.
+        int[][] turf = {{20, 1}, {21, 2}, {29, 2}, {30, 3}, {38, 3}, {39, 4}, {40, 4}};
+        for (int[] want : turf) {
+            CHECK.due("treadings(1, " + want[0] + ", 0)", x.treadings(1, want[0], 0), want[1]);
+        }
         CHECK.due("a hole", x.treadings(2, 40, 0), 0);
         CHECK.due("a hole", x.treadings(2, 40, 1), -9);
         CHECK.due("one without yards", x.treadings(3, 40, 0), 0);
@@ -99,6 +104,12 @@ public final class ThoughtTest {
         CHECK.due("the most grown tells", x.treadings(1, 40, 1), 2);
         x.days(1);
         CHECK.due("days count from now", x.treadings(1, 40, 1), 1);
+        CHECK.due("trod on the first day", x.treadings(1, 1, 0), 1);
+        // Day 1 is now: a meadow with 2 has 5 and 8 behind days 2 and 3, so day 4 is the third from now.
+        CHECK.due("days count from now", x.treadings(0, 40, 1), 3);
+        CHECK.due("days count from now", x.treadings(0, 2, 0), 0);
+        CHECK.due("days count from now", x.treadings(0, 4, 0), 1);
+        CHECK.due("days count from now", x.treadings(0, 5, 0), 2);
         CHECK.due("treadings(4, -1, 0)", x.treadings(4, -1, 0), -1);
         CHECK.due("treadings(0, -1, 2)", x.treadings(0, -1, 2), -4);
         CHECK.due("treadings(0, 41, 2)", x.treadings(0, 41, 2), -6);
@@ -122,6 +133,14 @@ public final class ThoughtTest {
         x.rolls(2);
         CHECK.due("all rolled up", x.turns(99), 3);
         CHECK.due("without pieces", new RugWasField().turns(99), 0);
+        RugWasField pair = Check.of("pm80011;pm80111;");
+        for (int n = 0; n <= 99; n++) {
+            CHECK.due("every other day is enough for a meadow", pair.turns(n), 0);
+        }
+        RugWasField last = Check.of("pm80011;pm80111;pm80211;r0;r1;");
+        for (int n = 0; n <= 99; n++) {
+            CHECK.due("one that lies alone is trod each day", last.turns(n), 0);
+        }
         RugWasField holes = Check.of("ph00011;pp00111;g00019;");
         CHECK.due("a hole has its turn, too", holes.turns(1), 1);
         CHECK.due("a hole has its turn, too", holes.turns(2), 0);
@@ -162,6 +181,10 @@ public final class ThoughtTest {
         CHECK.due("under it one rolled up", x.sold(3, 0), 1);
         CHECK.due("under it one rolled up", x.sold(3, 1), 5 + 4 + 2);
         CHECK.due("pieces as ahead", x.count(0) + x.piece(0, 6), 3 + 4);
+        CHECK.due("what is nobody's grows not", Check.of("pm80066;g00015;").sold(9, 1), 10);
+        CHECK.due("the lesser loss", Check.of("pm80022;pt00411;").sold(9, 0), 1);
+        CHECK.due("the lesser loss", Check.of("pm80022;pt00411;").sold(9, 1), 36);
+        CHECK.due("of several the least", Check.of("pm80022;pt00411;pt00511;").sold(9, 0), 1);
         CHECK.due("without pieces", new RugWasField().sold(9, 0), -9);
         CHECK.due("without pieces", new RugWasField().sold(9, 1), -9);
         CHECK.due("sold(-1, 2)", x.sold(-1, 2), -4);

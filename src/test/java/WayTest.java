@@ -41,6 +41,8 @@ public final class WayTest {
         CHECK.due("two steps", x.reached(7, 2), 1 + 3 + 2);
         CHECK.due("all", x.reached(7, 35), 36 - 5 - 1);
         CHECK.due("from a hole", x.reached(0, 35), 0);
+        CHECK.due("the whole land", new RugWasField().reached(0, 35), 36);
+        CHECK.due("the whole land but one", new RugWasField().reached(0, 9), 35);
         x.makes(17, 9);
         CHECK.due("above the wall", x.reached(7, 35), 11);
         CHECK.due("reached(36, -1)", x.reached(36, -1), -1);
@@ -63,6 +65,10 @@ public final class WayTest {
         CHECK.due("none do", x.cut(0, 11), -9);
         RugWasField y = Check.of("pp01213;pp01513;pp02416;");
         CHECK.due("fewest, not least", y.cut(0, 35), 4);
+        RugWasField six = Check.of("pp01211;pp01311;pp01411;pp01511;pp01611;pp01711;");
+        CHECK.due("all six", six.cut(0, 35), 63);
+        six.rolls(5);
+        CHECK.due("all five", six.cut(0, 35), 31);
         RugWasField z = Check.of("pp01213;pp01216;");
         CHECK.due("under another it still belongs to that", z.cut(0, 35), 3);
         CHECK.due("an end that is a thistle", Check.of("g00009;pp00111;").cut(0, 35), 0);
@@ -137,6 +143,12 @@ public final class WayTest {
         // None lies: a opens his own, b leaves his.
         CHECK.due("a opens", x.two(0, 1, 6, 18), 10);
         CHECK.due("rolled as ahead", x.count(5), 3);
+        RugWasField apart = Check.of("pp01213;pp00511;");
+        CHECK.due("a changes nothing", apart.two(1, 0, 6, 18), 1);
+        CHECK.due("b changes nothing", apart.two(0, 1, 6, 18), 0);
+        // Two gaps as good as each other, a's rolled up: he lays it out lest b shut the other.
+        RugWasField gaps = Check.of("pp01411;pp01511;g12139;g16179;r0;");
+        CHECK.due("a lays out, b leaves it", gaps.two(0, 1, 8, 21), 10);
         RugWasField y = Check.of("g12179;pp03011;pp03511;");
         CHECK.due("nothing helps", y.two(0, 1, 0, 35), 0);
         RugWasField z = Check.of("g12179;pp01211;pp00411;r0;t1;");
