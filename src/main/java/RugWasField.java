@@ -48,10 +48,7 @@ public final class RugWasField {
     }
 
     public int letter(int c) {
-        int fault = outside(c, 0, 255);
-        if (fault == 0 && telling.length >= MOST_LETTERS) {
-            fault = ROOM;
-        }
+        int fault = firstOf(outside(c, 0, 255), telling.length >= MOST_LETTERS ? ROOM : 0);
         return fault != 0 ? refuse(fault) : telling.add(c);
     }
 
@@ -136,10 +133,8 @@ public final class RugWasField {
     }
 
     public int turn(int piece, int kind, int figure) {
-        int fault = !now.hasPiece(piece) ? NOBODY : otherThan(kind, KINDS - 1);
-        if (fault == 0) {
-            fault = outside(figure, 0, MOST_FIGURE);
-        }
+        int fault = !now.hasPiece(piece) ? NOBODY
+            : firstOf(otherThan(kind, KINDS - 1), outside(figure, 0, MOST_FIGURE));
         if (fault != 0) {
             return refuse(fault);
         }
@@ -150,10 +145,7 @@ public final class RugWasField {
     }
 
     public int days(int n) {
-        int fault = outside(n, 1, MOST_DAYS_AT_ONCE);
-        if (fault == 0 && now.day + n > LAST_DAY) {
-            fault = ROOM;
-        }
+        int fault = firstOf(outside(n, 1, MOST_DAYS_AT_ONCE), now.day + n > LAST_DAY ? ROOM : 0);
         if (fault != 0) {
             return refuse(fault);
         }
@@ -167,10 +159,7 @@ public final class RugWasField {
     }
 
     public int thistles(int n, int what) {
-        int fault = outside(n, 0, FARTHEST_THOUGHT);
-        if (fault == 0) {
-            fault = otherThan(what, 1);
-        }
+        int fault = firstOf(outside(n, 0, FARTHEST_THOUGHT), otherThan(what, 1));
         if (fault != 0) {
             return refuse(fault);
         }
@@ -264,13 +253,8 @@ public final class RugWasField {
     }
 
     public int treadings(int piece, int n, int what) {
-        int fault = !now.hasPiece(piece) ? NOBODY : outside(n, 0, 40);
-        if (fault == 0) {
-            fault = otherThan(what, 1);
-        }
-        if (fault == 0 && now.rolled[piece]) {
-            fault = STATE;
-        }
+        int fault = !now.hasPiece(piece) ? NOBODY
+            : firstOf(outside(n, 0, 40), firstOf(otherThan(what, 1), now.rolled[piece] ? STATE : 0));
         if (fault != 0) {
             return refuse(fault);
         }
@@ -312,10 +296,7 @@ public final class RugWasField {
     }
 
     public int sold(int n, int what) {
-        int fault = outside(n, 0, FARTHEST_THOUGHT);
-        if (fault == 0) {
-            fault = otherThan(what, 1);
-        }
+        int fault = firstOf(outside(n, 0, FARTHEST_THOUGHT), otherThan(what, 1));
         if (fault != 0) {
             return refuse(fault);
         }
@@ -367,10 +348,7 @@ public final class RugWasField {
     }
 
     public long rain(int yard, int n, int t, int part) {
-        int fault = !isYard(yard) ? NOBODY : outsideOdds(n, t);
-        if (fault == 0) {
-            fault = otherThan(part, 1);
-        }
+        int fault = !isYard(yard) ? NOBODY : firstOf(outsideOdds(n, t), otherThan(part, 1));
         if (fault != 0) {
             return REFUSED_LONG - refuse(fault);
         }
@@ -405,10 +383,7 @@ public final class RugWasField {
     }
 
     public int patch(int what) {
-        int fault = otherThan(what, 1);
-        if (fault == 0 && toldLength != 4) {
-            fault = STATE;
-        }
+        int fault = firstOf(otherThan(what, 1), toldLength != 4 ? STATE : 0);
         if (fault != 0) {
             return refuse(fault);
         }
@@ -424,10 +399,8 @@ public final class RugWasField {
     }
 
     public int whatWas(int yard, int what) {
-        int fault = !isYard(yard) ? NOBODY : otherThan(what, 1);
-        if (fault == 0 && now.owner[yard] == NONE) {
-            fault = STATE;
-        }
+        int fault = !isYard(yard) ? NOBODY
+            : firstOf(otherThan(what, 1), now.owner[yard] == NONE ? STATE : 0);
         if (fault != 0) {
             return refuse(fault);
         }
@@ -445,10 +418,7 @@ public final class RugWasField {
     }
 
     public int row(int v) {
-        int fault = outside(v, 0, 99);
-        if (fault == 0 && toldLength >= MOST_IN_ROW) {
-            fault = ROOM;
-        }
+        int fault = firstOf(outside(v, 0, 99), toldLength >= MOST_IN_ROW ? ROOM : 0);
         if (fault != 0) {
             return refuse(fault);
         }
@@ -477,10 +447,7 @@ public final class RugWasField {
     }
 
     public int lots(int n, int z, int what) {
-        int fault = outside(n, 1, 20);
-        if (fault == 0) {
-            fault = otherThan(what, 1);
-        }
+        int fault = firstOf(outside(n, 1, 20), otherThan(what, 1));
         if (fault != 0) {
             return refuse(fault);
         }
@@ -546,6 +513,10 @@ public final class RugWasField {
 
     private static int outside(int number, int least, int most) {
         return number < least ? BELOW : number > most ? ROOM : 0;
+    }
+
+    private static int firstOf(int fault, int next) {
+        return fault != 0 ? fault : next;
     }
 
     private static int otherThan(int what, int last) {
