@@ -110,6 +110,13 @@ public final class ThoughtTest {
         CHECK.due("days count from now", x.treadings(0, 2, 0), 0);
         CHECK.due("days count from now", x.treadings(0, 4, 0), 1);
         CHECK.due("days count from now", x.treadings(0, 5, 0), 2);
+        // From day 4 on a turf must be trod on days 15 and 24.
+        RugWasField later = Check.of("d04;pt00011;");
+        CHECK.due("from day 4", later.treadings(0, 40, 1), 11);
+        int[][] wanted = {{10, 0}, {11, 1}, {19, 1}, {20, 2}};
+        for (int[] want : wanted) {
+            CHECK.due("from day 4, " + want[0], later.treadings(0, want[0], 0), want[1]);
+        }
         CHECK.due("treadings(4, -1, 0)", x.treadings(4, -1, 0), -1);
         CHECK.due("treadings(0, -1, 2)", x.treadings(0, -1, 2), -4);
         CHECK.due("treadings(0, 41, 2)", x.treadings(0, 41, 2), -6);
@@ -165,6 +172,11 @@ public final class ThoughtTest {
         x.rolls(1);
         CHECK.due("one rolled up can not be trod", x.needy(0), -9);
         CHECK.due("one rolled up can not be trod", x.needy(2), 0);
+        RugWasField six = Check.of("pp00011;pp00111;pp00211;pp00311;pp00411;pp00511;g05059;");
+        CHECK.due("the last of six", six.needy(0), 5);
+        CHECK.due("the last of six", six.longest() + six.sold(0, 0), 0);
+        CHECK.due("the first turn of six", six.turns(5), 1);
+        CHECK.due("the last turn of six", six.turns(6), 0);
         CHECK.due("needy(-1)", x.needy(-1), -4);
         CHECK.due("needy(100)", x.needy(100), -6);
         CHECK.due("nothing is trod", x.yard(0, 0), 8);

@@ -69,6 +69,7 @@ public final class WayTest {
         CHECK.due("all six", six.cut(0, 35), 63);
         six.rolls(5);
         CHECK.due("all five", six.cut(0, 35), 31);
+        CHECK.due("the last of six", six.opens(11, 23), 5);
         RugWasField z = Check.of("pp01213;pp01216;");
         CHECK.due("under another it still belongs to that", z.cut(0, 35), 3);
         CHECK.due("an end that is a thistle", Check.of("g00009;pp00111;").cut(0, 35), 0);
