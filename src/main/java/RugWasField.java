@@ -404,17 +404,7 @@ public final class RugWasField {
         if (fault != 0) {
             return refuse(fault);
         }
-        int kinds = 0;
-        int figures = 0;
-        for (int kind = 0; kind < KINDS; kind++) {
-            for (int figure = 0; figure <= MOST_FIGURE; figure++) {
-                if (grewAsTold(yard, kind, figure)) {
-                    kinds |= 1 << kind;
-                    figures |= 1 << figure;
-                }
-            }
-        }
-        return what == 0 ? kinds : figures;
+        return what == 0 ? kindsAsTold(yard) : figuresAsTold(yard);
     }
 
     public int row(int v) {
@@ -617,6 +607,26 @@ public final class RugWasField {
         }
         return now.grown[yard] == told[0] && now.grown[yard + 1] == told[1]
             && now.grown[yard + SIDE] == told[2] && now.grown[yard + SIDE + 1] == told[3];
+    }
+
+    /** The kind alone is in question: the figure is the piece's own. */
+    private int kindsAsTold(int yard) {
+        int owner = now.owner[yard];
+        int bits = 0;
+        for (int kind = 0; kind < KINDS && owner != NONE; kind++) {
+            bits |= grewAsTold(yard, kind, now.figure[owner]) ? 1 << kind : 0;
+        }
+        return bits;
+    }
+
+    /** The figure alone is in question: the kind is the piece's own. */
+    private int figuresAsTold(int yard) {
+        int owner = now.owner[yard];
+        int bits = 0;
+        for (int figure = 0; figure <= MOST_FIGURE && owner != NONE; figure++) {
+            bits |= grewAsTold(yard, now.kind[owner], figure) ? 1 << figure : 0;
+        }
+        return bits;
     }
 
     private boolean grewAsTold(int yard, int kind, int figure) {

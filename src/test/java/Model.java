@@ -760,18 +760,18 @@ final class Model {
             return no(-3);
         }
         int bits = 0;
-        for (int kind = 0; kind < 6; kind++) {
-            for (int figure = 0; figure < 10; figure++) {
-                World w = world.copy();
-                w.pieces.get(owner).kind = kind;
-                w.pieces.get(owner).figure = figure;
-                boolean so = true;
-                for (int i = 0; so && i < row.size(); i++) {
-                    so = w.grown[yard] == row.get(i);
-                    w.oneDay();
-                }
-                bits |= so ? 1 << (what == 0 ? kind : figure) : 0;
+        for (int other = 0; other < (what == 0 ? 6 : 10); other++) {
+            World w = world.copy();
+            if (what == 0) {
+                w.pieces.get(owner).kind = other;
+            } else {
+                w.pieces.get(owner).figure = other;
             }
+            List<Integer> seen = new ArrayList<>();
+            for (int i = 0; i < row.size(); i++) {
+                seen.add(w.after(i).grown[yard]);
+            }
+            bits |= seen.equals(row) ? 1 << other : 0;
         }
         return bits;
     }

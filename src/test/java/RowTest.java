@@ -48,46 +48,122 @@ public final class RowTest {
     }
 
     private static void whatWas() {
-        int any = 1023;
-        RugWasField x = Check.of("pm80011;pp00111;r1;g01014;");
-        was(x, 0, 63, any);
-        Check.rowOf(x, 0);
-        was(x, 0, 63, any);
-        was(x, 1, 0, 0);
-        Check.rowOf(x, 1);
-        was(x, 0, 0, 0);
-        // Days 1 and 2 of 2 and 3: a meadow of 8 or 9, and nothing else.
-        Check.rowOf(x, 0, 2, 5);
-        was(x, 0, 4, 3 << 8);
-        // 1 on day 1: a meadow of 4 .. 7, a common of 4 .. 9.
-        Check.rowOf(x, 0, 1);
-        was(x, 0, 4 + 8, 1023 - 15);
-        // Day 2 by 2: a meadow of 4 .. 7, a common of 8 and 9.
+        kindsByOwnFigure();
+        figuresByOwnKind();
+        whatWasOfOtherDays();
+        whatWasOfTheLeastPiece();
+        whatWasRolledUp();
+        whatWasRefused();
+    }
+
+    /** A new object whose one piece, of all land, is of that kind and figure, with that row. */
+    private static RugWasField lone(String kind, int figure, int... numbers) {
+        RugWasField x = Check.of("p" + kind + figure + "0066;");
+        Check.rowOf(x, numbers);
+        return x;
+    }
+
+    private static void kindsByOwnFigure() {
+        // The run: by a figure of 9 a meadow grows 2 on day 1, a common 1.
+        was(lone("m", 9, 0, 0), 0, 63 - 4 - 8, 15);
+        // By a figure of 0 it is as a turf, which grows on day 2; a common then has half of 2.
+        was(lone("m", 0, 0, 0), 0, 63, 15);
+        was(lone("m", 0, 0, 0, 1), 0, 2 + 4 + 8, 15);
+        // 1 on day 1: a meadow of 4 .. 7, a common of 4 .. 9, whichever of them it is.
+        was(lone("p", 4, 0, 1), 0, 4 + 8, 0);
+        was(lone("p", 8, 0, 1), 0, 8, 0);
+        was(lone("p", 3, 0, 1), 0, 0, 0);
+        was(lone("m", 4, 0, 1), 0, 4 + 8, 15 << 4);
+        was(lone("m", 8, 0, 1), 0, 8, 15 << 4);
+        was(lone("c", 8, 0, 1), 0, 8, 63 << 4);
+        was(lone("c", 3, 0, 1), 0, 0, 63 << 4);
+        // 1 more than a piece on day 7: a field of 3 .. 5.
+        was(lone("f", 3, 0, 0, 0, 1, 1, 1, 2, 3), 0, 16, 7 << 3);
+        was(lone("f", 9, 0, 0, 0, 1, 1, 1, 2, 3), 0, 0, 7 << 3);
+        was(lone("p", 5, 0, 0, 0, 1, 1, 1, 2, 3), 0, 16, 0);
+        was(lone("p", 2, 0, 0, 0, 1, 1, 1, 2, 2), 0, 1 + 16, 1023);
+    }
+
+    private static void figuresByOwnKind() {
+        // The other run: a piece grows 0 on day 1 by every figure.
+        was(lone("p", 0, 0, 1), 0, 0, 0);
+        was(lone("p", 0, 0, 0), 0, 63, 1023);
+        was(lone("t", 9, 0, 0, 1, 2), 0, 2, 1023);
+        was(lone("m", 9, 0, 2, 5), 0, 4, 3 << 8);
+        was(lone("m", 0, 0, 2, 5), 0, 0, 3 << 8);
+        was(lone("c", 9, 0, 1, 3), 0, 8, 3 << 8);
+        was(lone("c", 7, 0, 1, 2), 0, 8, 15 << 4);
+        was(lone("f", 0, 0, 0, 0, 1, 1, 1, 2, 5), 0, 0, 1 << 9);
+        was(lone("f", 8, 0, 0, 0, 1), 0, 1 + 16, 1023);
+        was(lone("h", 8, 0, 0, 0, 0), 0, 32, 1023);
+        was(lone("h", 8, 0, 1), 0, 8, 0);
+        // Without numbers all of it is so.
+        was(lone("c", 5), 35, 63, 1023);
+    }
+
+    private static void whatWasOfOtherDays() {
+        // From day 5 on: day 6 by 1 (a turf 2), day 7 by a third of a field's figure.
+        RugWasField x = Check.of("d05;pf60066;");
         Check.rowOf(x, 0, 1, 3);
-        was(x, 0, 4 + 8, 1023 - 15);
-        Check.rowOf(x, 0, 1, 2);
-        was(x, 0, 8, 15 << 4);
-        // Nothing until day 6: a hole; with 1 on day 3, a piece, or a field before day 7.
-        Check.rowOf(x, 0, 0, 0, 0);
-        was(x, 0, 32, any);
-        Check.rowOf(x, 0, 0, 0, 1);
-        was(x, 0, 1 + 16, any);
-        // 1 more on day 7: a field of 3 .. 5.
-        Check.rowOf(x, 0, 0, 0, 1, 1, 1, 2, 3);
-        was(x, 0, 16, 7 << 3);
-        // One rolled up grows by no kind.
-        Check.rowOf(x, 4, 4, 4, 4);
-        was(x, 1, 63, any);
+        was(x, 20, 16, 7 << 6);
+        Check.rowOf(x, 0, 2, 2);
+        was(x, 20, 2, 0);
+        // Beyond the last day, in thought: 1001 is divided by 7, 1002 by 2 and 3.
+        RugWasField y = Check.of("d60;d60;d60;d60;d60;d60;d60;d60;d60;d60;d60;d60;d60;d60;d60;d60;d39;pf30066;");
+        Check.rowOf(y, 0, 0, 1, 2);
+        was(y, 0, 16, 7 << 3);
+        CHECK.due("DAY as ahead", y.count(1), 999);
+        // 9 is the most: behind it all that grow are alike.
+        RugWasField z = lone("m", 8, 9, 9, 9);
+        z.makes(3, 9);
+        was(z, 3, 63, 1023);
+        z.makes(3, 8);
+        Check.rowOf(z, 8, 9, 9);
+        was(z, 3, 4 + 8, 63 << 4);
+        Check.rowOf(z, 8, 10);
+        was(z, 3, 0, 0);
+    }
+
+    private static void whatWasOfTheLeastPiece() {
+        RugWasField x = Check.of("pm80011;pp30022;g01014;");
+        Check.rowOf(x, 0, 2);
+        was(x, 0, 4, 3 << 8);
+        was(x, 7, 0, 0);
+        Check.rowOf(x, 4, 4, 4, 5);
+        was(x, 0, 0, 0);
+        was(x, 1, 1 + 16, 1023);
         CHECK.due("the row stays", x.count(6), 4);
-        x.makes(0, 9);
-        Check.rowOf(x, 9, 9, 9);
-        was(x, 0, 63, any);
         CHECK.due("kind and figure as ahead", 10 * x.piece(0, 0) + x.piece(0, 1), 28);
+        CHECK.due("kind and figure as ahead", 10 * x.piece(1, 0) + x.piece(1, 1), 3);
+        CHECK.due("grown as ahead", x.count(2), 4);
+        // By what it is now, not by what it was told as.
+        x.turn(0, 3, 4);
+        Check.rowOf(x, 0, 1);
+        was(x, 0, 4 + 8, 63 << 4);
+    }
+
+    private static void whatWasRolledUp() {
+        RugWasField x = lone("m", 9, 0, 0, 0, 0);
+        was(x, 0, 32, 0);
+        x.rolls(0);
+        was(x, 0, 63, 1023);
+        Check.rowOf(x, 0, 2);
+        was(x, 0, 0, 0);
+        x.rolls(0);
+        was(x, 0, 4, 3 << 8);
+    }
+
+    private static void whatWasRefused() {
+        RugWasField x = Check.of("pm80011;");
         CHECK.due("whatWas(36, 2)", x.whatWas(36, 2), -1);
         CHECK.due("whatWas(-1, 0)", x.whatWas(-1, 0), -1);
         CHECK.due("whatWas(2, 2)", x.whatWas(2, 2), -2);
         CHECK.due("whatWas(2, -1)", x.whatWas(2, -1), -2);
         CHECK.due("whatWas(2, 0)", x.whatWas(2, 0), -3);
+        CHECK.due("whatWas(2, 1)", x.whatWas(2, 1), -3);
+        CHECK.due("refusals -1", x.count(11), 2);
+        CHECK.due("refusals -2", x.count(12), 2);
+        CHECK.due("refusals -3", x.count(13), 2);
     }
 
     private static void row() {
