@@ -45,6 +45,21 @@ final class Check {
         return x;
     }
 
+    /** A call by its name. */
+    static long call(RugWasField x, String name, int... arguments) {
+        Class<?>[] types = new Class<?>[arguments.length];
+        Object[] values = new Object[arguments.length];
+        for (int i = 0; i < arguments.length; i++) {
+            types[i] = int.class;
+            values[i] = arguments[i];
+        }
+        try {
+            return ((Number) RugWasField.class.getMethod(name, types).invoke(x, values)).longValue();
+        } catch (ReflectiveOperationException e) {
+            throw new IllegalStateException(name + " did not answer", e);
+        }
+    }
+
     static void rowOf(RugWasField x, int... numbers) {
         x.clear();
         for (int number : numbers) {
