@@ -118,6 +118,7 @@ public final class RowEdgeTest {
         whatWasBySixteen();
         whatWasByOneNumber();
         whatWasOfOneRolledUp();
+        whatWasByWhatItIsNow();
     }
 
     private static void was(RugWasField x, int yard, int kinds, int figures) {
@@ -171,6 +172,21 @@ public final class RowEdgeTest {
         was(x, 0, 0, 0);
         x.rolls(0);
         was(x, 0, 4, 3 << 8);
+    }
+
+    /** The FIGURE and the KIND that stay are those of now, whatever was thought ahead. */
+    private static void whatWasByWhatItIsNow() {
+        RugWasField x = Check.of("pm90066;");
+        Check.rowOf(x, 0, 0);
+        was(x, 0, 63 - 4 - 8, 15);
+        x.thistles(0, 0);
+        x.turn(0, 2, 0);
+        was(x, 0, 63, 15);
+        x.turn(0, 0, 9);
+        was(x, 0, 63 - 4 - 8, 1023);
+        x.sold(0, 0);
+        Check.rowOf(x, 0, 2);
+        was(x, 0, 4, 0);
     }
 
     private static void judged() {
