@@ -477,9 +477,9 @@ public final class LandEdgeTest {
 
     /** "1 on DAYS that 3 divides", "1 more on even DAYS", "on DAYS that 7 divides, besides": over all DAYS. */
     private static void growthOnTheDays() {
-        RugWasField x = Check.of("pp90011;pt90011;pf30011;");
         int[] together = new int[3];
         for (int day = 1; day <= 999; day++) {
+            RugWasField x = Check.of("pp90011;pt90011;pf30011;");
             for (int piece = 0; piece < 3; piece++) {
                 together[piece] += x.grows(piece, day);
             }

@@ -26,14 +26,23 @@ public final class RefusalTest {
     private final Supplier<RugWasField> made;
     private final String untouched;
     private final int[] refusedAhead;
-    private final RugWasField known;
+    private final int pieces;
+    private final int rolled;
+    private final int day;
+    private final int inRow;
+    private final int letters;
 
     private RefusalTest(String name, Supplier<RugWasField> made) {
         this.name = name;
         this.made = made;
         untouched = Sight.ofAll(made);
         refusedAhead = Sight.refusals(made.get());
-        known = made.get();
+        RugWasField known = made.get();
+        pieces = known.count(0);
+        day = known.count(1);
+        rolled = known.count(5);
+        inRow = known.count(6);
+        letters = known.count(7);
     }
 
     public static void main(String[] args) {
@@ -91,7 +100,7 @@ public final class RefusalTest {
 
     /** Promises 2 to 11. */
     private void ofTheLand() {
-        grid("letter", PLAIN, v -> known.count(7) == 96 ? -6 : 0, number(0, 255));
+        grid("letter", PLAIN, v -> letters == 96 ? -6 : 0, number(0, 255));
         grid("yard", new int[] {-1, -2}, v -> 0, yards(), whats(2));
         grid("piece", new int[] {-1, -2}, v -> 0, pieces(), whats(6));
         grid("grows", PLAIN, v -> 0, pieces(), number(1, 999));
@@ -99,7 +108,7 @@ public final class RefusalTest {
         grid("rolls", PLAIN, v -> 0, pieces());
         grid("treads", new int[] {-1, -3}, v -> isRolled(v[0]) ? -3 : 0, pieces());
         grid("turn", new int[] {-1, -2, -4, -6}, v -> 0, pieces(), whats(5), number(0, 9));
-        grid("days", PLAIN, v -> known.count(1) + (long) v[0] > 999 ? -6 : 0, number(1, 60));
+        grid("days", PLAIN, v -> day + (long) v[0] > 999 ? -6 : 0, number(1, 60));
     }
 
     /** Promises 12 to 15 and 21 to 28. */
@@ -130,18 +139,18 @@ public final class RefusalTest {
 
     /** Promises 30 to 32 and 37. */
     private void ofTheRow() {
-        grid("patch", new int[] {-2, -3}, v -> known.count(6) != 4 ? -3 : 0, whats(1));
+        grid("patch", new int[] {-2, -3}, v -> inRow != 4 ? -3 : 0, whats(1));
         grid("whatWas", new int[] {-1, -2, -3}, v -> belongsToNone(v[0]) ? -3 : 0, yardsOfSomeAndNone(), whats(1));
-        grid("row", PLAIN, v -> known.count(6) == 16 ? -6 : 0, number(0, 99));
+        grid("row", PLAIN, v -> inRow == 16 ? -6 : 0, number(0, 99));
         grid("on", new int[] {-3}, v -> name.equals("new") ? -3 : 0);
     }
 
     private boolean isRolled(int piece) {
-        return piece >= 0 && piece < known.count(0) && known.piece(piece, 5) == 1;
+        return piece >= 0 && piece < pieces && (rolled >> piece & 1) == 1;
     }
 
     private boolean belongsToNone(int yard) {
-        return yard >= 0 && yard < 36 && known.yard(yard, 1) == -9;
+        return yard >= 0 && yard < 36 && made.get().yard(yard, 1) == -9;
     }
 
     private static List<Value> number(int least, int most) {
@@ -171,9 +180,8 @@ public final class RefusalTest {
     /** The first, the last and the one ahead of it, and those beyond on either side. */
     private List<Value> pieces() {
         List<Value> all = new ArrayList<>();
-        int many = known.count(0);
-        for (int piece : new int[] {LEAST, -1, 0, many - 2, many - 1, many, 6, MOST}) {
-            Value value = new Value(piece, piece < 0 || piece >= many ? -1 : 0);
+        for (int piece : new int[] {LEAST, -1, 0, pieces - 2, pieces - 1, pieces, 6, MOST}) {
+            Value value = new Value(piece, piece < 0 || piece >= pieces ? -1 : 0);
             if (!all.contains(value)) {
                 all.add(value);
             }

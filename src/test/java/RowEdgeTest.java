@@ -155,8 +155,8 @@ public final class RowEdgeTest {
 
     /** "behind 0, 1, .. DAYS": the first number is what is grown now. */
     private static void whatWasByOneNumber() {
-        RugWasField x = Check.of("pm90011;pp00066;g00007;");
         for (int v = 0; v <= 99; v++) {
+            RugWasField x = Check.of("pm90011;pp00066;g00007;");
             Check.rowOf(x, v);
             was(x, 0, v == 7 ? 63 : 0, v == 7 ? 1023 : 0);
             was(x, 35, v == 0 ? 63 : 0, v == 0 ? 1023 : 0);
@@ -210,11 +210,11 @@ public final class RowEdgeTest {
     /** "THISTLES behind 0, 1, .. DAYS: the first that is not so": at each of the 16 places. */
     private static void judgedAtEachPlace() {
         // A turf is thistle behind 12 days.
-        RugWasField x = Check.of("pt00022;");
         int[] right = {0, 0, 0, 0, 0, 0, 0, 0, 0, 0, 0, 0, 4, 4, 4, 4};
-        Check.rowOf(x, right);
-        CHECK.due("all so", x.judge(), -9);
         for (int wrong = 0; wrong < 16; wrong++) {
+            RugWasField x = Check.of("pt00022;");
+            Check.rowOf(x, right);
+            CHECK.due("all so", x.judge(), -9);
             int[] other = right.clone();
             other[wrong] = 99;
             Check.rowOf(x, other);
@@ -225,8 +225,8 @@ public final class RowEdgeTest {
             Check.rowOf(x, other);
             CHECK.due("not so from " + wrong + " on", x.judge(), wrong);
             CHECK.due("none then", x.count(6), 0);
+            CHECK.due("nothing goes by", x.count(1) + x.count(2), 0);
         }
-        CHECK.due("nothing goes by", x.count(1) + x.count(2), 0);
     }
 
     /** Draws below 2 from a seed on, worked out apart from the class. */
