@@ -49,6 +49,7 @@ public final class ForgetTest {
         }
         behind("an image that was gone back to", ForgetTest::andBack);
         imagedAhead();
+        imagedAheadOfChanges();
         changedSinceTheLastThought();
     }
 
@@ -105,6 +106,13 @@ public final class ForgetTest {
             RugWasField x = new RugWasField();
             x.image();
             look("an image of bare land", call, withRow(told(x)), plain());
+        }
+    }
+
+    /** An image of the land as it was told on one object, and none on the other; both are changed then. */
+    private void imagedAheadOfChanges() {
+        for (String call : CALLS) {
+            look("an image of the land ahead of changes", call, changed(asked(plain(), "image")), changed(plain()));
         }
     }
 

@@ -313,6 +313,12 @@ public final class LandEdgeTest {
         RugWasField trod = Check.of("pp00022;pp00033;g00359;t1;");
         CHECK.due("all that belongs to it is trod", trod.count(2), 324 - 9 * 5);
         CHECK.due("what belongs to the lesser is not", trod.yard(7, 0), 9);
+        for (char kind : "ptmcfh".toCharArray()) {
+            RugWasField any = Check.of("p" + kind + "00022;g00359;t0;");
+            CHECK.due(kind + " can be trod", any.count(2), 288);
+            CHECK.due(kind + " can be rolled up", Check.of("p" + kind + "00022;r0;").count(5), 1);
+        }
+        CHECK.due("one without yards can be trod", land("pp00011;pp00011;t1;r1;"), 4);
     }
 
     /** "no such PIECE so far": each digit with each number of pieces. */
@@ -553,6 +559,8 @@ public final class LandEdgeTest {
         makesFromNoneToThistle();
         treadsAllOrNothing();
         turnsToEveryKind();
+        turnsNothingButKindAndFigure();
+        changesNothingElse();
         daysOneAndSixty();
     }
 
@@ -581,6 +589,9 @@ public final class LandEdgeTest {
         RugWasField hole = Check.of("ph00011;g00007;");
         CHECK.due("a hole", hole.treads(0), 7);
         CHECK.due("a hole trod", hole.yard(0, 0), 0);
+        for (char kind : "ptmcfh".toCharArray()) {
+            CHECK.due(kind + " trod", Check.of("p" + kind + "00022;g00359;").treads(0), 36);
+        }
     }
 
     /** Promise 10: "10 times the KIND and the FIGURE it had." */
@@ -593,6 +604,84 @@ public final class LandEdgeTest {
         }
         CHECK.due("the other as ahead", x.turn(0, 0, 0), 0);
         CHECK.due("to what it is", x.turn(0, 0, 0), 0);
+    }
+
+    /** Promise 10: "KIND, FIGURE become others": all is as if it had been told so; one rolled up stays so. */
+    private static void turnsNothingButKindAndFigure() {
+        String rest = "pm90833;r0;g00359;g07073;";
+        for (int both = 0; both < 60; both++) {
+            int kind = both / 10;
+            int figure = both % 10;
+            String told = "p" + "ptmcfh".charAt(kind) + figure + "0022;" + rest;
+            String want = Sight.ofAll(() -> withRowAndLetters(Check.of(told)));
+            CHECK.yes("turn(0, " + kind + ", " + figure + ") as told", Sight.ofAll(() -> {
+                RugWasField x = Check.of("pt50022;" + rest);
+                x.turn(0, kind, figure);
+                return withRowAndLetters(x);
+            }).equals(want));
+        }
+    }
+
+    private static RugWasField withRowAndLetters(RugWasField x) {
+        x.image();
+        return rowAndLetters(x);
+    }
+
+    private static RugWasField rowAndLetters(RugWasField x) {
+        x.row(x.count(3));
+        x.row(x.count(3));
+        for (char c : "d01;r1;".toCharArray()) {
+            x.letter(c);
+        }
+        return x;
+    }
+
+    /** Promises 7 to 9 and 11: each call does what its statement does, and nothing more to what there is. */
+    private static void changesNothingElse() {
+        String[][] alike = {{"makes 20 7", "g20207;"}, {"makes 0 0", "g00000;"}, {"makes 35 9", "g35359;"}, {"rolls 0", "r0;"},
+            {"rolls 1", "r1;"}, {"rolls 2", "r2;"}, {"treads 0", "t0;"}, {"treads 2", "t2;"}, {"days 1", "d01;"}, {"days 60", "d60;"}};
+        String land = "pt50022;pm90733;pf60033;r1;g00354;g20209;d01;";
+        for (String[] both : alike) {
+            String want = Sight.ofAll(() -> {
+                RugWasField x = Check.of(land);
+                x.image();
+                Check.tell(x, both[1]);
+                return rowAndLetters(x);
+            });
+            CHECK.yes(both[0] + " as " + both[1], Sight.ofAll(() -> {
+                RugWasField x = Check.of(land);
+                x.image();
+                return rowAndLetters(asked(x, both[0]));
+            }).equals(want));
+        }
+        leavesRowAndLetters(land, alike);
+    }
+
+    /** The row and the letters that came ahead of a call are there behind it: a patch of the row's numbers is found. */
+    private static void leavesRowAndLetters(String land, String[][] alike) {
+        for (String[] both : alike) {
+            RugWasField x = rowAndLetters(Check.of(land));
+            Check.rowOf(x, 1, 2, 3, 4);
+            asked(x, both[0]);
+            CHECK.due("the row behind " + both[0], x.count(6), 4);
+            x.makes(28, 1);
+            x.makes(29, 2);
+            x.makes(34, 3);
+            x.makes(35, 4);
+            CHECK.due("as it was behind " + both[0], x.patch(1), 28);
+            CHECK.due("letters behind " + both[0], x.count(7), 7);
+            CHECK.due("as they were behind " + both[0], x.land(), 2);
+        }
+    }
+
+    private static RugWasField asked(RugWasField x, String call) {
+        String[] words = call.split(" ");
+        int[] arguments = new int[words.length - 1];
+        for (int i = 0; i < arguments.length; i++) {
+            arguments[i] = Integer.parseInt(words[i + 1]);
+        }
+        CHECK.yes(call + " is taken", Check.call(x, words[0], arguments) >= 0);
+        return x;
     }
 
     /** Promise 11: "n DAYS (1 .. 60) go by: THISTLES." */

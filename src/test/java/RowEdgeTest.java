@@ -107,6 +107,15 @@ public final class RowEdgeTest {
         RugWasField full = Check.of("g00359;");
         Check.rowOf(full, 9, 9, 9, 9);
         CHECK.due("thistles everywhere", full.patch(0), 25);
+        for (int at = 0; at < 4; at++) {
+            for (int more : new int[] {8, 10, 99}) {
+                int[] other = {9, 9, 9, 9};
+                other[at] = more;
+                Check.rowOf(full, other);
+                CHECK.due(more + " is not 9", full.patch(0), 0);
+            }
+        }
+        Check.rowOf(full, 9, 9, 9, 9);
         full.days(1);
         full.makes(0, 0);
         CHECK.due("as it is now", full.patch(0), 24);
@@ -172,6 +181,18 @@ public final class RowEdgeTest {
         was(x, 0, 0, 0);
         x.rolls(0);
         was(x, 0, 4, 3 << 8);
+        // It is the YARD's own PIECE that is rolled up or not, whichever else is.
+        RugWasField two = Check.of("pm90011;pm90111;r1;");
+        Check.rowOf(two, 0, 2);
+        was(two, 0, 4, 3 << 8);
+        was(two, 1, 0, 0);
+        two.rolls(0);
+        two.rolls(1);
+        was(two, 0, 0, 0);
+        was(two, 1, 4, 3 << 8);
+        Check.rowOf(two, 0, 0);
+        was(two, 0, 63, 1023);
+        was(two, 1, 63 - 4 - 8, 15);
     }
 
     /** The FIGURE and the KIND that stay are those of now, whatever was thought ahead. */
@@ -203,6 +224,11 @@ public final class RowEdgeTest {
         CHECK.due("none then", x.count(6), 0);
         x.row(35);
         CHECK.due("one that is not", x.judge(), 0);
+        for (int more : new int[] {37, 72, 99}) {
+            x.row(36);
+            x.row(more);
+            CHECK.due("more than there can be", x.judge(), 1);
+        }
         CHECK.due("none then", x.count(6), 0);
         CHECK.due("no numbers again", x.judge(), -9);
     }

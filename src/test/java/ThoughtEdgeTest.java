@@ -100,6 +100,15 @@ public final class ThoughtEdgeTest {
         CHECK.due("it does not belong to the other", y.firstThistle(2), -9);
         RugWasField last = Check.of("pp00066;g35358;");
         CHECK.due("its last yard", last.firstThistle(0), 3);
+        for (int most = 0; most < 36; most++) {
+            RugWasField all = Check.of("pp00066;g00355;");
+            CHECK.due("alike", all.firstThistle(0), 12);
+            all.makes(most, 8);
+            CHECK.due("its yard " + most, all.firstThistle(0), 3);
+            CHECK.due("latest by its yard " + most, all.longest(), 0);
+            all.makes(most, 9);
+            CHECK.due("its thistle " + most, all.firstThistle(0), 0);
+        }
         // By the figure: a meadow of 3 is as a turf, one of 9 has 2, 5, 8, 11; a field of 9 has 1, 2, 5 on DAYS 3, 6, 7.
         CHECK.due("a meadow of 3", Check.of("pm30011;").firstThistle(0), 12);
         CHECK.due("a meadow of 9", Check.of("pm90011;").firstThistle(0), 4);
@@ -186,6 +195,13 @@ public final class ThoughtEdgeTest {
         trod(two, 3, 1, 3);
         trod(two, 26, 1, 3);
         trod(two, 27, 2, 3);
+        // Wherever it lies: the first of its yards, one between, the last.
+        for (int most : new int[] {7, 8, 9, 13, 14, 15, 19, 20, 21}) {
+            RugWasField nine = Check.of("pp00733;g00355;");
+            nine.makes(most, 8);
+            trod(nine, 2, 0, -9);
+            trod(nine, 3, 1, 3);
+        }
     }
 
     private static void turnsAndNeedy() {
@@ -225,6 +241,12 @@ public final class ThoughtEdgeTest {
         for (int n : new int[] {0, 1, 99}) {
             CHECK.due("no pieces, turns(" + n + ")", bare.turns(n), 5);
             CHECK.due("all rolled up, turns(" + n + ")", rolled.turns(n), 2);
+        }
+        // One that no yard belongs to has its turn, and nothing is trod on that day.
+        RugWasField yardless = Check.of("ph00011;ph00011;ph00111;g00019;");
+        int[] wants = {2, 1, 1, 0, 0};
+        for (int n = 0; n < wants.length; n++) {
+            CHECK.due("one without yards between, turns(" + n + ")", yardless.turns(n), wants[n]);
         }
     }
 
@@ -292,6 +314,29 @@ public final class ThoughtEdgeTest {
         hayOfNoneAndAll();
         sameByOneYard();
         edgeOfTheLand();
+        placesWhateverLiesThere();
+    }
+
+    /** HAY, SAME, EDGE and who has a YARD ask neither for the KIND nor whether it is ROLLED up. */
+    private static void placesWhateverLiesThere() {
+        for (char lesser : "ptmcfh".toCharArray()) {
+            for (char other : "ptmcfh".toCharArray()) {
+                for (String rolled : new String[] {"", "r0;", "r1;", "r0;r1;"}) {
+                    RugWasField x = Check.of("p" + lesser + "90022;p" + other + "90733;" + rolled + "g00352;g14149;");
+                    String which = " of " + lesser + ", " + other + " by " + rolled;
+                    CHECK.due("same(0)" + which, x.same(0), 1);
+                    CHECK.due("same(1)" + which, x.same(1), 1);
+                    CHECK.due("hay(0)" + which, x.hay(0), 8);
+                    CHECK.due("hay(1)" + which, x.hay(1), 23);
+                    CHECK.due("edge(0)" + which, x.edge(0), 3);
+                    CHECK.due("edge(1)" + which, x.edge(1), 7);
+                    CHECK.due("piece(0, 6)" + which, x.piece(0, 6), 4);
+                    CHECK.due("piece(1, 6)" + which, x.piece(1, 6), 8);
+                    CHECK.due("yard(7, 1)" + which, x.yard(7, 1), 0);
+                    CHECK.due("yard(14, 1)" + which, x.yard(14, 1), 1);
+                }
+            }
+        }
     }
 
     /** Promise 25. */
@@ -372,6 +417,13 @@ public final class ThoughtEdgeTest {
         likely(never, 8, 20, 0, 1);
         likely(never, 8, 2, 0, 1);
         likely(Check.of("g00008;"), 8, 2, 0, 1);
+        // What is thistle stays so: of none, of one rolled up, of a hole.
+        for (String thistle : new String[] {"g00009;", "pm90011;r0;g00009;", "ph00011;g00009;"}) {
+            for (int n = 0; n <= 8; n++) {
+                likely(Check.of(thistle), n, 20, 1, 1);
+                likely(Check.of(thistle.replace("g00009", "g00008")), n, 20, 0, 1);
+            }
+        }
     }
 
     /** "a DAY of rain is two (both in their turn)": from DAY 2 a piece with 3 has 9 behind 16 days, not behind 15. */

@@ -144,6 +144,13 @@ public final class WayEdgeTest {
         RugWasField all = Check.of("pp01213;pp00711;r0;r1;");
         CHECK.due("all rolled up, a way", all.cut(0, 35), -9);
         CHECK.due("as ahead", all.count(5), 3);
+        // Who lies is as it is now, not as it was when the image was taken.
+        RugWasField now = Check.of("pp00011;pp03511;r0;r1;");
+        now.image();
+        now.rolls(0);
+        now.rolls(1);
+        CHECK.due("either end would do now", now.cut(0, 35), 1);
+        CHECK.due("the other end", now.cut(1, 35), 2);
     }
 
     private static void opens() {
@@ -234,6 +241,35 @@ public final class WayEdgeTest {
                 CHECK.due("from 14 to " + want[1] + ", " + piece, x.putAway(want[0], want[1], piece, 1), piece == want[2] ? 1 : 0);
             }
         }
+        aroundWhatIsShut();
+    }
+
+    /** Up or down, left or right, each as short: around a thistle between; with the first of two shut, too, the other way. */
+    private static void aroundWhatIsShut() {
+        // From 14 over 15 to 16, over 13 to 12, over 20 to 26, over 8 to 2.
+        int[][] ways = {{15, 16, 8, 20}, {13, 12, 8, 20}, {20, 26, 13, 15}, {8, 2, 13, 15}};
+        for (int[] way : ways) {
+            RugWasField x = Check.of("pp00811;pp01311;pp01511;pp02011;");
+            x.makes(way[0], 9);
+            stepsOnto(x, way[1], way[2]);
+            x.makes(way[2], 9);
+            stepsOnto(x, way[1], way[3]);
+        }
+        // To a corner all four may be the first: up and left, up and right, left and down, right and down.
+        int[][] corners = {{7, 8, 13}, {9, 8, 15}, {19, 13, 20}, {21, 15, 20}};
+        for (int[] corner : corners) {
+            RugWasField x = Check.of("pp00811;pp01311;pp01511;pp02011;");
+            stepsOnto(x, corner[0], corner[1]);
+            x.makes(corner[1], 9);
+            stepsOnto(x, corner[0], corner[2]);
+        }
+    }
+
+    /** Whether his first step from 14 goes to that yard: each beside it is a piece's own. */
+    private static void stepsOnto(RugWasField x, int end, int yard) {
+        for (int piece = 0; piece < 4; piece++) {
+            CHECK.due("from 14 to " + end + ", over " + piece, x.putAway(14, end, piece, 1), x.yard(yard, 1) == piece ? 1 : 0);
+        }
     }
 
     /** "0 there is no WAY", though he would stand on it; "land as now": it is rolled up then, not now. */
@@ -244,6 +280,19 @@ public final class WayEdgeTest {
         x.rolls(0);
         CHECK.due("rolled up now", x.putAway(0, 1, 0, 1), 0);
         CHECK.due("rolled up now, to itself", x.putAway(0, 0, 0, 1), 0);
+        // From what is not open he does not set out, though he would stand beside it by one step.
+        RugWasField shutIn = Check.of("ph01411;pp01711;pp00066;r1;g08089;");
+        for (int from : new int[] {8, 14, 17}) {
+            for (int n : new int[] {1, 36}) {
+                CHECK.due("from " + from + ", DAY " + n, shutIn.putAway(from, 35, 2, n), 0);
+                CHECK.due("to " + from + ", DAY " + n, shutIn.putAway(35, from, 2, n), 0);
+            }
+        }
+        CHECK.due("beside them", shutIn.putAway(13, 35, 2, 1), 1);
+        // What is shut elsewhere, the first yard or the last, is nothing to him.
+        RugWasField corners = Check.of("pp00744;g00009;g35359;");
+        CHECK.due("within, one step", corners.putAway(7, 28, 0, 1), 1);
+        CHECK.due("within, at the end", corners.putAway(28, 7, 0, 36), 1);
         RugWasField growing = Check.of("pm90011;pm90111;pm90211;g00028;");
         CHECK.due("nothing grows meanwhile", growing.putAway(0, 2, 2, 36), 1);
     }
