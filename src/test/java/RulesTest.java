@@ -7,7 +7,9 @@ import java.lang.reflect.Modifier;
 import java.nio.charset.StandardCharsets;
 import java.nio.file.Files;
 import java.nio.file.Path;
+import java.util.Map;
 import java.util.Set;
+import java.util.TreeMap;
 import java.util.TreeSet;
 import java.util.regex.Matcher;
 import java.util.regex.Pattern;
@@ -24,12 +26,18 @@ public final class RulesTest {
     private static final int MOST_PARAMETERS = 7;
     private static final int MOST_CLASSES = 12;
     private static final int MOST_FIELDS = 20;
+    private static final int DEEPEST_CALL = 8;
+    private static final Pattern HEAD = Pattern.compile("^( {4}| {8})(?! )[^/*]*\\b(\\w+)\\([^;]*\\) \\{$");
+    private static final Set<String> LIBRARY = Set.of("String", "StringBuilder", "Integer", "Long", "Math", "System", "Arrays",
+        "ArrayList", "List", "Iterator", "Iterable", "Comparable", "Override");
 
     public static void main(String[] args) throws Exception {
         face();
         insideClasses();
         text();
+        namesOfTheLibrary();
         methodsAreShort();
+        callsGoNotDeep();
         callsTakeNoRoom();
         CHECK.finish();
     }
@@ -113,14 +121,30 @@ public final class RulesTest {
         CHECK.yes("no loop without an end", !Pattern.compile("while\\s*\\(\\s*true|for\\s*\\(\\s*;\\s*;").matcher(bare).find());
     }
 
+    /** Rule 4: no class but the library's few and those inside the file. */
+    private static void namesOfTheLibrary() throws Exception {
+        Set<String> known = new TreeSet<>(LIBRARY);
+        known.add("RugWasField");
+        for (Class<?> c : RugWasField.class.getDeclaredClasses()) {
+            known.add(c.getSimpleName());
+        }
+        Matcher name = Pattern.compile("\\b[A-Z]\\w*[a-z]\\w*\\b").matcher(bare(source()));
+        while (name.find()) {
+            CHECK.yes(name.group() + " may be used", known.contains(name.group()));
+        }
+    }
+
+    private static boolean begins(Matcher head, String line) {
+        return head.find() && !line.trim().matches("(if|for|while|switch|\\}).*");
+    }
+
     private static void methodsAreShort() throws Exception {
         String[] lines = source().split("\n");
         int begun = -1;
         String name = "";
-        Pattern head = Pattern.compile("^( {4}| {8})(?! )[^/*]*\\b(\\w+)\\([^;]*\\) \\{$");
         for (int i = 0; i < lines.length; i++) {
-            Matcher m = head.matcher(lines[i]);
-            if (m.find() && !lines[i].trim().matches("(if|for|while|switch|\\}).*")) {
+            Matcher m = HEAD.matcher(lines[i]);
+            if (begins(m, lines[i])) {
                 begun = i;
                 name = m.group(1) + "}" + m.group(2);
             } else if (begun >= 0 && lines[i].equals(name.substring(0, name.indexOf('}') + 1))) {
@@ -128,6 +152,50 @@ public final class RulesTest {
                 begun = -1;
             }
         }
+    }
+
+    /** Rules 8 and 11: no method calls itself, by others either, and eight calls at most stand open at once. */
+    private static void callsGoNotDeep() throws Exception {
+        Map<String, Set<String>> called = new TreeMap<>();
+        Set<String> now = new TreeSet<>();
+        for (String line : bare(source()).split("\n")) {
+            Matcher head = HEAD.matcher(line);
+            if (begins(head, line)) {
+                now = new TreeSet<>();
+                CHECK.yes(head.group(2) + " is the name of one method", called.put(head.group(2), now) == null);
+                continue;
+            }
+            Matcher call = Pattern.compile("\\b(\\w+)\\(").matcher(line);
+            while (call.find()) {
+                now.add(call.group(1));
+            }
+        }
+        CHECK.due("methods and constructors that the text shows", called.size(), methodsOfAll());
+        for (Set<String> names : called.values()) {
+            names.retainAll(called.keySet());
+        }
+        for (String name : called.keySet()) {
+            int deep = depth(called, name, 1);
+            CHECK.yes(name + " goes " + deep + " deep", deep <= DEEPEST_CALL);
+        }
+    }
+
+    /** The document's constructor and Land's are written out, the others are not. */
+    private static int methodsOfAll() {
+        int many = 2 + RugWasField.class.getDeclaredMethods().length;
+        for (Class<?> c : RugWasField.class.getDeclaredClasses()) {
+            many += c.getDeclaredMethods().length;
+        }
+        return many;
+    }
+
+    /** Far beyond what is allowed it ends, too: then some call goes round. */
+    private static int depth(Map<String, Set<String>> called, String name, int open) {
+        int deepest = open;
+        for (String next : called.get(name)) {
+            deepest = Math.max(deepest, open > 2 * DEEPEST_CALL ? open : depth(called, next, open + 1));
+        }
+        return deepest;
     }
 
     private static long used(ThreadMXBean bean) {
